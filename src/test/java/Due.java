@@ -1,11 +1,25 @@
-/** Counts and prints the answers that are not the ones that are due. */
+import java.util.function.IntBinaryOperator;
+
+/**
+ * Counts and prints the answers that are not the ones that are due. No test makes more than 512 calls
+ * of one object, since the document leaves free what later ones answer: so what is here makes few.
+ */
 final class Due {
+    private static final int MAX = Integer.MAX_VALUE;
+    private static final int MIN = Integer.MIN_VALUE;
+
     private int wrong = 0;
+    private String sentence = "";
+
+    /** What follows is about this sentence of the document: it is printed before each wrong answer. */
+    void sentence(String words) {
+        sentence = words + ": ";
+    }
 
     void is(String what, long got, long want) {
         if (got != want) {
             wrong++;
-            System.out.println(what + " answered " + got + ", due is " + want);
+            System.out.println(sentence + what + " answered " + got + ", due is " + want);
         }
     }
 
@@ -31,6 +45,13 @@ final class Due {
         return x;
     }
 
+    /** The same, reduced, with the rank that is due. */
+    PrimeBench reduced(int p, int[][] rows, int rank) {
+        PrimeBench x = bench(p, rows);
+        is("reduce()", x.reduce(), rank);
+        return x;
+    }
+
     void rightSide(PrimeBench x, int... numbers) {
         for (int i = 0; i < numbers.length; i++) {
             is("setRhs(" + i + ", " + numbers[i] + ")", x.setRhs(i, numbers[i]), true);
@@ -38,35 +59,23 @@ final class Due {
     }
 
     void matrix(PrimeBench x, int[][] want) {
-        for (int i = 0; i < want.length; i++) {
-            for (int j = 0; j < want[i].length; j++) {
-                is("get(" + i + ", " + j + ")", x.get(i, j), want[i][j]);
-            }
-        }
+        all("get", x::get, want);
     }
 
     void rref(PrimeBench x, int[][] want) {
-        for (int i = 0; i < want.length; i++) {
-            for (int j = 0; j < want[i].length; j++) {
-                is("rrefAt(" + i + ", " + j + ")", x.rrefAt(i, j), want[i][j]);
-            }
-        }
+        all("rrefAt", x::rrefAt, want);
     }
 
     void transform(PrimeBench x, int[][] want) {
-        for (int i = 0; i < want.length; i++) {
-            for (int j = 0; j < want[i].length; j++) {
-                is("transformAt(" + i + ", " + j + ")", x.transformAt(i, j), want[i][j]);
-            }
-        }
+        all("transformAt", x::transformAt, want);
     }
 
     void inverse(PrimeBench x, int[][] want) {
-        for (int i = 0; i < want.length; i++) {
-            for (int j = 0; j < want[i].length; j++) {
-                is("inverseAt(" + i + ", " + j + ")", x.inverseAt(i, j), want[i][j]);
-            }
-        }
+        all("inverseAt", x::inverseAt, want);
+    }
+
+    void kernel(PrimeBench x, int[][] want) {
+        all("kernelAt", x::kernelAt, want);
     }
 
     void solution(PrimeBench x, int... want) {
@@ -75,28 +84,54 @@ final class Due {
         }
     }
 
-    void kernel(PrimeBench x, int[][] want) {
-        for (int k = 0; k < want.length; k++) {
-            for (int j = 0; j < want[k].length; j++) {
-                is("kernelAt(" + k + ", " + j + ")", x.kernelAt(k, j), want[k][j]);
+    private void all(String name, IntBinaryOperator answer, int[][] want) {
+        for (int i = 0; i < want.length; i++) {
+            for (int j = 0; j < want[i].length; j++) {
+                at(name, answer, i, j, want[i][j]);
             }
         }
     }
 
-    /** Every answer that hangs on the reducing is -1 (false), at each place and beyond. */
+    private void at(String name, IntBinaryOperator answer, int i, int j, int want) {
+        is(name + "(" + i + ", " + j + ")", answer.applyAsInt(i, j), want);
+    }
+
+    /** Numbers that are no index of a row of this length: just beside, far off, and where a product wraps round. */
+    static int[] beside(int length) {
+        return new int[] {MIN, -length, -1, length, length + 1, 1 << 30, MAX};
+    }
+
+    /** The answer is -1 for every place outside these rows and columns. */
+    void noneBeside(String name, int rows, int columns, IntBinaryOperator answer) {
+        for (int i : beside(rows)) {
+            for (int j = 0; j < columns; j++) {
+                at(name, answer, i, j, -1);
+            }
+            for (int j : beside(columns)) {
+                at(name, answer, i, j, -1);
+            }
+        }
+        for (int i = 0; i < rows; i++) {
+            for (int j : beside(columns)) {
+                at(name, answer, i, j, -1);
+            }
+        }
+    }
+
+    /** Every answer that hangs on the reducing is -1 (false), at places that there may be and beyond. */
     void notReduced(PrimeBench x) {
         is("rank()", x.rank(), -1);
         is("det()", x.det(), -1);
         is("solvable()", x.solvable(), false);
         is("kernelDim()", x.kernelDim(), -1);
-        for (int i = -1; i <= 11; i++) {
+        int[] places = {MIN, -1, 0, 1, 9, 10, MAX};
+        for (int i : places) {
             is("solution(" + i + ")", x.solution(i), -1);
-            for (int j = -1; j <= 11; j++) {
-                String place = "(" + i + ", " + j + ")";
-                is("rrefAt" + place, x.rrefAt(i, j), -1);
-                is("transformAt" + place, x.transformAt(i, j), -1);
-                is("inverseAt" + place, x.inverseAt(i, j), -1);
-                is("kernelAt" + place, x.kernelAt(i, j), -1);
+            for (int j : places) {
+                at("rrefAt", x::rrefAt, i, j, -1);
+                at("transformAt", x::transformAt, i, j, -1);
+                at("inverseAt", x::inverseAt, i, j, -1);
+                at("kernelAt", x::kernelAt, i, j, -1);
             }
         }
     }

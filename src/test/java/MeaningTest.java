@@ -19,15 +19,15 @@ public final class MeaningTest {
         due.end();
     }
 
-    private static PrimeBench filled(int p, int m, int n) {
-        PrimeBench x = new PrimeBench(p, m, n);
+    private static int[][] numbers(int p, int m, int n) {
+        int[][] rows = new int[m][n];
         boolean sparse = random.nextBoolean();
         for (int i = 0; i < m; i++) {
             for (int j = 0; j < n; j++) {
-                x.set(i, j, sparse && random.nextInt(3) != 0 ? 0 : random.nextInt(p));
+                rows[i][j] = sparse && random.nextInt(3) != 0 ? 0 : random.nextInt(p);
             }
         }
-        return x;
+        return rows;
     }
 
     private static int times(int[] one, int[] other, int p) {
@@ -38,84 +38,99 @@ public final class MeaningTest {
         return sum.mod(BigInteger.valueOf(p)).intValueExact();
     }
 
-    private static int[] row(PrimeBench x, int i, int n) {
-        int[] numbers = new int[n];
-        for (int j = 0; j < n; j++) {
-            numbers[j] = x.get(i, j);
-        }
-        return numbers;
-    }
-
-    private static int[] column(PrimeBench x, int j, int m) {
-        int[] numbers = new int[m];
-        for (int i = 0; i < m; i++) {
-            numbers[i] = x.get(i, j);
+    private static int[] column(int[][] rows, int j) {
+        int[] numbers = new int[rows.length];
+        for (int i = 0; i < rows.length; i++) {
+            numbers[i] = rows[i][j];
         }
         return numbers;
     }
 
     private static void products(int p, int m, int n) {
-        PrimeBench x = filled(p, m, n);
-        int[] b = new int[m];
-        int[] hidden = new int[n];
-        for (int j = 0; j < n; j++) {
-            hidden[j] = random.nextInt(p);
-        }
-        for (int i = 0; i < m; i++) {
-            b[i] = times(row(x, i, n), hidden, p);
-            x.setRhs(i, b[i]);
-        }
+        int[][] a = numbers(p, m, n);
+        PrimeBench x = due.bench(p, a);
         int rank = x.reduce();
-        for (int i = 0; i < m; i++) {
-            int[] t = new int[m];
-            int[] inverse = new int[m];
-            for (int k = 0; k < m; k++) {
+        transformed(x, a, p, n);
+        if (m == n && rank == n) {
+            inverted(x, a, p);
+        }
+        solved(x, a, p, n);
+        takenToZero(x, a, p, n);
+    }
+
+    private static void transformed(PrimeBench x, int[][] a, int p, int n) {
+        for (int i = 0; i < a.length; i++) {
+            int[] t = new int[a.length];
+            for (int k = 0; k < a.length; k++) {
                 t[k] = x.transformAt(i, k);
-                inverse[k] = x.inverseAt(i, k);
             }
             for (int j = 0; j < n; j++) {
-                due.is("T A is R", times(t, column(x, j, m), p), x.rrefAt(i, j));
-                if (m == n && rank == n) {
-                    due.is("the inverse times A", times(inverse, column(x, j, m), p), i == j ? 1 : 0);
-                }
+                due.is("T A is R", times(t, column(a, j), p), x.rrefAt(i, j));
             }
         }
+    }
+
+    private static void inverted(PrimeBench x, int[][] a, int p) {
+        for (int i = 0; i < a.length; i++) {
+            int[] inverse = new int[a.length];
+            for (int k = 0; k < a.length; k++) {
+                inverse[k] = x.inverseAt(i, k);
+            }
+            for (int j = 0; j < a.length; j++) {
+                due.is("the inverse times A", times(inverse, column(a, j), p), i == j ? 1 : 0);
+            }
+        }
+    }
+
+    /** A right side that some x gives is solvable, though the solution may be another x. */
+    private static void solved(PrimeBench x, int[][] a, int p, int n) {
+        int[] hidden = numbers(p, 1, n)[0];
+        int[] b = new int[a.length];
+        for (int i = 0; i < a.length; i++) {
+            b[i] = times(a[i], hidden, p);
+        }
+        due.rightSide(x, b);
         due.is("solvable()", x.solvable(), true);
         int[] solution = new int[n];
         for (int j = 0; j < n; j++) {
             solution[j] = x.solution(j);
         }
-        for (int i = 0; i < m; i++) {
-            due.is("A x is b", times(row(x, i, n), solution, p), b[i]);
+        for (int i = 0; i < a.length; i++) {
+            due.is("A x is b", times(a[i], solution, p), b[i]);
         }
-        for (int k = 0; k < x.kernelDim(); k++) {
+    }
+
+    private static void takenToZero(PrimeBench x, int[][] a, int p, int n) {
+        int howMany = x.kernelDim();
+        for (int k = 0; k < howMany; k++) {
             int[] zero = new int[n];
             for (int j = 0; j < n; j++) {
                 zero[j] = x.kernelAt(k, j);
             }
-            for (int i = 0; i < m; i++) {
-                due.is("A x is 0", times(row(x, i, n), zero, p), 0);
+            for (int[] row : a) {
+                due.is("A x is 0", times(row, zero, p), 0);
             }
         }
     }
 
     private static void determinant(int p, int n) {
-        PrimeBench x = filled(p, n, n);
+        int[][] a = numbers(p, n, n);
+        PrimeBench x = due.bench(p, a);
         x.reduce();
-        BigInteger sum = overOrders(x, n, 0, new boolean[n]);
+        BigInteger sum = overOrders(a, 0, new boolean[n]);
         due.is("det()", x.det(), sum.mod(BigInteger.valueOf(p)).intValueExact());
     }
 
-    private static BigInteger overOrders(PrimeBench x, int n, int i, boolean[] used) {
-        if (i == n) {
+    private static BigInteger overOrders(int[][] a, int i, boolean[] used) {
+        if (i == a.length) {
             return BigInteger.ONE;
         }
         BigInteger sum = BigInteger.ZERO;
         int before = 0;
-        for (int j = 0; j < n; j++) {
+        for (int j = 0; j < a.length; j++) {
             if (!used[j]) {
                 used[j] = true;
-                BigInteger part = overOrders(x, n, i + 1, used).multiply(BigInteger.valueOf(x.get(i, j)));
+                BigInteger part = overOrders(a, i + 1, used).multiply(BigInteger.valueOf(a[i][j]));
                 sum = before % 2 == 0 ? sum.add(part) : sum.subtract(part);
                 used[j] = false;
                 before++;
@@ -125,12 +140,8 @@ public final class MeaningTest {
     }
 
     private static void everyX(int p, int m, int n) {
-        PrimeBench x = filled(p, m, n);
-        int[] b = new int[m];
-        for (int i = 0; i < m; i++) {
-            b[i] = random.nextInt(p);
-            x.setRhs(i, b[i]);
-        }
+        int[][] a = numbers(p, m, n);
+        int[] b = numbers(p, 1, m)[0];
         int all = power(p, n);
         int zeros = 0;
         boolean found = false;
@@ -139,13 +150,15 @@ public final class MeaningTest {
             boolean isB = true;
             boolean isZero = true;
             for (int i = 0; i < m; i++) {
-                int product = times(row(x, i, n), tried, p);
+                int product = times(a[i], tried, p);
                 isB &= product == b[i];
                 isZero &= product == 0;
             }
             found |= isB;
             zeros += isZero ? 1 : 0;
         }
+        PrimeBench x = due.bench(p, a);
+        due.rightSide(x, b);
         int rank = x.reduce();
         due.is("solvable()", x.solvable(), found);
         due.is("P to the power kernelDim()", power(p, x.kernelDim()), zeros);

@@ -7,37 +7,46 @@ public final class ModelTest {
     private static final Random random = new Random(20261115L);
 
     public static void main(String[] args) {
-        for (int run = 0; run < 1500; run++) {
+        for (int run = 0; run < 2500; run++) {
             mixedRun(run);
         }
         due.end();
     }
 
+    /** All 512 calls mixed, or 200 of them and then every place of two of the answers. */
     private static void mixedRun(int run) {
         int p = PRIMES[random.nextInt(PRIMES.length)];
         int m = 1 + random.nextInt(10);
         int n = random.nextInt(3) == 0 ? m : 1 + random.nextInt(10);
         PrimeBench x = new PrimeBench(p, m, n);
         Model y = new Model(p, m, n);
-        String name = "run " + run + " of PrimeBench(" + p + ", " + m + ", " + n + "): ";
+        due.sentence("run " + run + " of PrimeBench(" + p + ", " + m + ", " + n + ")");
         int kind = random.nextInt(4);
-        for (int call = 0; call < 512; call++) {
+        if (run % 5 == 0) {
+            mixedCalls(x, y, p, m, n, kind, 512);
+            return;
+        }
+        mixedCalls(x, y, p, m, n, kind, 200);
+        due.is("reduce()", x.reduce(), y.reduce());
+        askAll(x, y, m, n, run % 5);
+    }
+
+    private static void mixedCalls(PrimeBench x, Model y, int p, int m, int n, int kind, int calls) {
+        for (int call = 0; call < calls; call++) {
             int i = place(m);
             int j = place(n);
             if (random.nextInt(6) == 0) {
                 int number = number(p, kind);
-                due.is(name + "set(" + i + ", " + j + ", " + number + ")", x.set(i, j, number), y.set(i, j, number));
+                due.is("set(" + i + ", " + j + ", " + number + ")", x.set(i, j, number), y.set(i, j, number));
             } else if (random.nextInt(8) == 0) {
                 int number = number(p, kind);
-                due.is(name + "setRhs(" + i + ", " + number + ")", x.setRhs(i, number), y.setRhs(i, number));
+                due.is("setRhs(" + i + ", " + number + ")", x.setRhs(i, number), y.setRhs(i, number));
             } else if (random.nextInt(4) == 0) {
-                due.is(name + "reduce()", x.reduce(), y.reduce());
+                due.is("reduce()", x.reduce(), y.reduce());
             } else {
-                ask(name, x, y, i, j);
+                ask(x, y, i, j);
             }
         }
-        due.is(name + "reduce()", x.reduce(), y.reduce());
-        askAll(name, x, y, m, n);
     }
 
     /** Mostly a place that there is, now and then one just beside. */
@@ -59,37 +68,39 @@ public final class ModelTest {
         return random.nextInt(4) == 0 ? p - 1 - random.nextInt(2) : 0;
     }
 
-    private static void ask(String name, PrimeBench x, Model y, int i, int j) {
-        String place = "(" + i + ", " + j + ")";
+    private static void ask(PrimeBench x, Model y, int i, int j) {
         switch (random.nextInt(10)) {
-            case 0 -> due.is(name + "get" + place, x.get(i, j), y.get(i, j));
-            case 1 -> due.is(name + "rank()", x.rank(), y.rank());
-            case 2 -> due.is(name + "rrefAt" + place, x.rrefAt(i, j), y.rrefAt(i, j));
-            case 3 -> due.is(name + "transformAt" + place, x.transformAt(i, j), y.transformAt(i, j));
-            case 4 -> due.is(name + "det()", x.det(), y.det());
-            case 5 -> due.is(name + "inverseAt" + place, x.inverseAt(i, j), y.inverseAt(i, j));
-            case 6 -> due.is(name + "solvable()", x.solvable(), y.solvable());
-            case 7 -> due.is(name + "solution(" + j + ")", x.solution(j), y.solution(j));
-            case 8 -> due.is(name + "kernelDim()", x.kernelDim(), y.kernelDim());
-            default -> due.is(name + "kernelAt" + place, x.kernelAt(i, j), y.kernelAt(i, j));
+            case 0 -> due.is("rank()", x.rank(), y.rank());
+            case 1 -> due.is("det()", x.det(), y.det());
+            case 2 -> due.is("solvable()", x.solvable(), y.solvable());
+            case 3 -> due.is("solution(" + j + ")", x.solution(j), y.solution(j));
+            case 4 -> due.is("kernelDim()", x.kernelDim(), y.kernelDim());
+            default -> askPlace(x, y, i, j, random.nextInt(5));
         }
     }
 
-    private static void askAll(String name, PrimeBench x, Model y, int m, int n) {
-        due.is(name + "rank()", x.rank(), y.rank());
-        due.is(name + "det()", x.det(), y.det());
-        due.is(name + "solvable()", x.solvable(), y.solvable());
-        due.is(name + "kernelDim()", x.kernelDim(), y.kernelDim());
+    private static void askPlace(PrimeBench x, Model y, int i, int j, int kind) {
+        String place = "(" + i + ", " + j + ")";
+        switch (kind) {
+            case 0 -> due.is("get" + place, x.get(i, j), y.get(i, j));
+            case 1 -> due.is("rrefAt" + place, x.rrefAt(i, j), y.rrefAt(i, j));
+            case 2 -> due.is("transformAt" + place, x.transformAt(i, j), y.transformAt(i, j));
+            case 3 -> due.is("inverseAt" + place, x.inverseAt(i, j), y.inverseAt(i, j));
+            default -> due.is("kernelAt" + place, x.kernelAt(i, j), y.kernelAt(i, j));
+        }
+    }
+
+    private static void askAll(PrimeBench x, Model y, int m, int n, int kind) {
+        due.is("rank()", x.rank(), y.rank());
+        due.is("det()", x.det(), y.det());
+        due.is("solvable()", x.solvable(), y.solvable());
+        due.is("kernelDim()", x.kernelDim(), y.kernelDim());
         int most = Math.max(m, n);
         for (int i = -1; i <= most; i++) {
-            due.is(name + "solution(" + i + ")", x.solution(i), y.solution(i));
+            due.is("solution(" + i + ")", x.solution(i), y.solution(i));
             for (int j = -1; j <= most; j++) {
-                String place = "(" + i + ", " + j + ")";
-                due.is(name + "get" + place, x.get(i, j), y.get(i, j));
-                due.is(name + "rrefAt" + place, x.rrefAt(i, j), y.rrefAt(i, j));
-                due.is(name + "transformAt" + place, x.transformAt(i, j), y.transformAt(i, j));
-                due.is(name + "inverseAt" + place, x.inverseAt(i, j), y.inverseAt(i, j));
-                due.is(name + "kernelAt" + place, x.kernelAt(i, j), y.kernelAt(i, j));
+                askPlace(x, y, i, j, kind - 1);
+                askPlace(x, y, i, j, kind);
             }
         }
     }
