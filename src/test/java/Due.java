@@ -96,6 +96,14 @@ final class Due {
         is(name + "(" + i + ", " + j + ")", answer.applyAsInt(i, j), want);
     }
 
+    static int power(int p, int exponent) {
+        int product = 1;
+        for (int k = 0; k < exponent; k++) {
+            product *= p;
+        }
+        return product;
+    }
+
     /** Numbers that are no index of a row of this length: just beside, far off, and where a product wraps round. */
     static int[] beside(int length) {
         return new int[] {MIN, -length, -1, length, length + 1, 1 << 30, MAX};

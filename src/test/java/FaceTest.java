@@ -9,7 +9,7 @@ import java.util.TreeSet;
 /** The public face of the document: its constructor and methods, and nothing else that is not private. */
 public final class FaceTest {
     private static final Due due = new Due();
-    private static final String[] FACE = {
+    static final String[] FACE = {
         "boolean set(int, int, int)", "int get(int, int)", "boolean setRhs(int, int)", "int reduce()", "int rank()",
         "int rrefAt(int, int)", "int transformAt(int, int)", "int det()", "int inverseAt(int, int)",
         "boolean solvable()", "int solution(int)", "int kernelDim()", "int kernelAt(int, int)"};

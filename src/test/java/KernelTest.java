@@ -114,7 +114,7 @@ public final class KernelTest {
     }
 
     private static void noSuchNumber() {
-        due.sentence("Promise 14: 'Number j of the k-th x (0 the first) of the kernel; -1 when .. there is none such.'");
+        due.sentence("Promise 14: 'Number j of the k-th x (0 the first) of the kernel; -1 when .. none such.'");
         PrimeBench x = due.reduced(7, new int[][] {{1, 2, 3}}, 1);
         due.noneBeside("kernelAt", 2, 3, x::kernelAt);
         due.kernel(x, new int[][] {{5, 1, 0}, {4, 0, 1}});

@@ -142,7 +142,7 @@ public final class MeaningTest {
     private static void everyX(int p, int m, int n) {
         int[][] a = numbers(p, m, n);
         int[] b = numbers(p, 1, m)[0];
-        int all = power(p, n);
+        int all = Due.power(p, n);
         int zeros = 0;
         boolean found = false;
         for (int code = 0; code < all; code++) {
@@ -161,16 +161,8 @@ public final class MeaningTest {
         due.rightSide(x, b);
         int rank = x.reduce();
         due.is("solvable()", x.solvable(), found);
-        due.is("P to the power kernelDim()", power(p, x.kernelDim()), zeros);
-        due.is("P to the power N - reduce()", power(p, n - rank), zeros);
-    }
-
-    private static int power(int p, int exponent) {
-        int product = 1;
-        for (int k = 0; k < exponent; k++) {
-            product *= p;
-        }
-        return product;
+        due.is("P to the power kernelDim()", Due.power(p, x.kernelDim()), zeros);
+        due.is("P to the power N - reduce()", Due.power(p, n - rank), zeros);
     }
 
     private static int[] digits(int code, int p, int n) {

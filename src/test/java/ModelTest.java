@@ -1,6 +1,9 @@
 import java.util.Random;
 
-/** All promises: long runs of mixed calls, each answer beside the model's; the seed is written down. */
+/**
+ * All promises: each answer beside the model's, in long runs of mixed calls whose seed is written down,
+ * and for every matrix of some small sizes.
+ */
 public final class ModelTest {
     private static final int[] PRIMES = {2, 3, 5, 7, 101, 46337, 65537, 1000000007, 2147483629, Integer.MAX_VALUE};
     private static final Due due = new Due();
@@ -10,7 +13,48 @@ public final class ModelTest {
         for (int run = 0; run < 2500; run++) {
             mixedRun(run);
         }
+        for (int m = 1; m <= 3; m++) {
+            for (int n = 1; n <= 3; n++) {
+                everyMatrix(2, m, n);
+            }
+        }
+        everyMatrix(3, 1, 4);
+        everyMatrix(3, 2, 2);
+        everyMatrix(3, 2, 3);
+        everyMatrix(3, 3, 2);
+        everyMatrix(5, 2, 2);
         due.end();
+    }
+
+    /** Each matrix of this size, with each right side set behind the reducing. */
+    private static void everyMatrix(int p, int m, int n) {
+        int matrices = Due.power(p, m * n);
+        for (int code = 0; code < matrices; code++) {
+            PrimeBench x = new PrimeBench(p, m, n);
+            Model y = new Model(p, m, n);
+            due.sentence("matrix " + code + " of PrimeBench(" + p + ", " + m + ", " + n + ")");
+            for (int place = 0; place < m * n; place++) {
+                int number = code / Due.power(p, place) % p;
+                due.is("set", x.set(place / n, place % n, number), y.set(place / n, place % n, number));
+            }
+            due.is("reduce()", x.reduce(), y.reduce());
+            askAll(x, y, m, n, 1);
+            askAll(x, y, m, n, 3);
+            everyRightSide(x, y, p, m, n);
+        }
+    }
+
+    private static void everyRightSide(PrimeBench x, Model y, int p, int m, int n) {
+        for (int code = 0; code < Due.power(p, m); code++) {
+            for (int i = 0; i < m; i++) {
+                int number = code / Due.power(p, i) % p;
+                due.is("setRhs(" + i + ", " + number + ")", x.setRhs(i, number), y.setRhs(i, number));
+            }
+            due.is("solvable()", x.solvable(), y.solvable());
+            for (int j = 0; j < n; j++) {
+                due.is("solution(" + j + ")", x.solution(j), y.solution(j));
+            }
+        }
     }
 
     /** All 512 calls mixed, or 200 of them and then every place of two of the answers. */
